@@ -47,53 +47,84 @@ public final class OracleTest {
 
     private boolean goes(int run) throws Exception {
         List<Method> face = face();
-        int calls = 0;
+        int people = run % 8 == 0 ? random.nextInt(5) : 2 + random.nextInt(4);
         boolean fine = true;
-        for (int i = 0; i < random.nextInt(7) && fine; i++) {
+        for (int i = 0; i < people && fine; i++) {
             fine = calls("person", random.nextInt(6), random.nextInt(10));
         }
-        while (fine && calls < CALLS) {
-            if (random.nextInt(25) == 0) {
+        for (int i = 0; i < people && fine; i++) {
+            fine = calls("set", 4, i, random.nextInt(people + 1) - 1) && calls("set", 2, i, random.nextInt(100));
+        }
+        while (fine && done.size() < CALLS) {
+            int choice = random.nextInt(40);
+            if (choice == 0) {
                 fine = feeds(run);
-                calls += 60;
-                continue;
+            } else if (choice < 4) {
+                fine = filmsAndTells();
+            } else {
+                Method m = face.get(random.nextInt(face.size()));
+                fine = random.nextInt(rarity(m.getName())) != 0
+                        || calls(m.getName(), valuesFor(m));
             }
-            Method m = face.get(random.nextInt(face.size()));
-            boolean isDear = m.getName().equals("ears");
-            boolean isRare = List.of("feed", "text").contains(m.getName());
-            if (isRare && random.nextInt(4) != 0 || isDear && random.nextInt(20) != 0) {
-                continue;
-            }
-            int[] values = new int[m.getParameterCount()];
-            for (int i = 0; i < values.length; i++) {
-                values[i] = valueFor(m.getName(), i);
-            }
-            fine = calls(m.getName(), values);
-            calls++;
         }
         return fine;
     }
 
-    private int valueFor(String name, int i) {
-        if (random.nextInt(40) == 0) {
-            return ODD[random.nextInt(ODD.length)];
+    private static int rarity(String name) {
+        switch (name) {
+            case "ears": return 25;
+            case "image": case "back": case "feed": case "text": return 12;
+            case "count": case "mean": case "force": case "round": return 3;
+            default: return 1;
         }
-        int[] most = mostFor(name);
-        int v = random.nextInt(most[i] + 2) - (random.nextInt(6) == 0 ? 1 : 0);
-        return name.equals("hears") && i == 1 ? v - 99 : v;
+    }
+
+    private int[] valuesFor(Method m) {
+        int[] values = new int[m.getParameterCount()];
+        int[] most = mostFor(m.getName());
+        for (int i = 0; i < values.length; i++) {
+            int choice = random.nextInt(60);
+            if (choice == 0) {
+                values[i] = ODD[random.nextInt(ODD.length)];
+            } else {
+                values[i] = choice < 3 ? most[i] + 1 : choice < 5 ? -1 : random.nextInt(most[i] + 1);
+            }
+            if (m.getName().equals("hears") && i == 1) {
+                values[i] -= 99;
+            }
+        }
+        return values;
+    }
+
+    /** A SHEET that tells what is true, or nearly so, is asked about. */
+    private boolean filmsAndTells() throws Exception {
+        int sheet = random.nextInt(4);
+        int one = random.nextInt(5);
+        int n = random.nextInt(random.nextBoolean() ? 4 : 21);
+        boolean fine = calls("film", sheet, one, n);
+        if (random.nextInt(3) == 0) {
+            fine = fine && calls("cell", sheet, random.nextInt(n + 1), random.nextInt(100));
+        }
+        if (random.nextInt(3) == 0) {
+            fine = fine && calls("set", 1 + random.nextInt(3), random.nextInt(5), random.nextInt(10));
+        }
+        for (int what = 0; what < 8; what++) {
+            fine = fine && calls("tells", sheet, one, random.nextInt(5), what);
+        }
+        return fine;
     }
 
     private int[] mostFor(String name) {
         switch (name) {
             case "set": {
-                int[][] all = {{6, 4, 99}, {6, 4, 9}, {6, 4, 4}, {6, 4, 1}, {0, 0, 999}};
+                int[][] all = {{6, 4, 99}, {6, 4, 9}, {6, 4, 4}, {6, 4, 1}, {6, 4, 1}};
                 return all[random.nextInt(all.length)];
             }
             case "person": return new int[] {5, 9};
             case "told": return new int[] {4, 9};
             case "hears": return new int[] {4, 198};
             case "feed": return new int[] {255};
-            case "force": return new int[] {2};
+            case "force": return new int[] {5};
             case "run": return new int[] {4, 40, 4};
             case "ears": return new int[] {3, 2};
             case "tells": return new int[] {3, 4, 4, 7};
@@ -101,10 +132,10 @@ public final class OracleTest {
             case "drawn": return new int[] {100000, 40};
             case "chance": return new int[] {100000, 20, random.nextBoolean() ? 150 : 500, 1};
             case "count": return new int[] {5};
-            case "sheet": return new int[] {3, 2, random.nextBoolean() ? 10 : 40};
+            case "sheet": return new int[] {3, 2, random.nextBoolean() ? 20 : 40};
             case "cell": return new int[] {3, 10, random.nextBoolean() ? 9 : 300};
-            case "copy": return new int[] {3, 10, 3, 10, 5};
-            case "valley": return new int[] {3, 2, 10, 5};
+            case "copy": return new int[] {3, 5, 3, 5, 5};
+            case "valley": return new int[] {3, random.nextInt(3), 10, 5};
             case "taken": return new int[] {4, 5};
             case "spread": case "aunt": return new int[] {4, 1};
             default: return new int[] {4, 4, 4};
@@ -113,6 +144,9 @@ public final class OracleTest {
 
     /** A TEXT, mostly a good one, byte by byte; then it mostly becomes THE RULE. */
     private boolean feeds(int run) throws Exception {
+        if (random.nextInt(4) != 0 && !calls("text")) {
+            return false;
+        }
         String text = sum("does", run) + sum(" weighs", run) + sum("\nspares", run);
         if (random.nextInt(3) == 0) {
             text = spoilt(text);
