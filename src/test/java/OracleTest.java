@@ -7,7 +7,7 @@ import java.util.Random;
 
 /** Long runs of calls by fixed seeds: the class and PlainListener answer alike, and nothing is ever thrown. */
 public final class OracleTest {
-    private static final int RUNS = 700;
+    private static final int RUNS = 400;
     private static final int CALLS = 512;
     private static final int[] ODD = {Integer.MIN_VALUE, Integer.MAX_VALUE, -1, -2, -100, 255, 256, 1000, 41, 161, 65536};
     private static final String[] WORDS = {"does", "weighs", "spares", "or", "and", "not", "tired", "story", "number",

@@ -132,6 +132,12 @@ public final class PromisesTest {
         due("set(-1)", x.set(-1, 0, 0), -1000);
         is(x, 0, 0, 0, 0, -1, 0, 0);
         is(x, 1, 4, 0, 0, 0, 0, 0);
+        int[] one = {7, 8, 9, 1, 1, 0};
+        for (int what = 1; what <= 5; what++) {
+            x.set(what, 0, one[what - 1]);
+            int[] sofar = {what > 0 ? 7 : 0, what > 1 ? 8 : 0, what > 2 ? 9 : 0, what > 3 ? 1 : -1, what > 4 ? 1 : 0, 0};
+            is(x, 0, sofar);
+        }
     }
 
     private static void person() {
@@ -169,6 +175,8 @@ public final class PromisesTest {
         due("deaf, 99", x.told(1, 8), 99);
         ruled(x, "does -3;weighs 0;spares 0;");
         due("deaf, bound ahead of what is more", x.told(1, 8), 9);
+        x.set(1, 1, 0);
+        due("deaf, nothing", x.told(1, 8), 0);
         due("what 10", x.told(0, 10), -1000);
         due("what -1", x.told(0, -1), -1000);
         due("of 2", x.told(2, 1), -1000);
@@ -194,7 +202,7 @@ public final class PromisesTest {
     }
 
     private static void hears() {
-        int[][] loads = {{20, 17, 21, 0, 42, 10, 17}, {2, 0, 4, 0, 8, 1, 0}, {0, 0, 0, 0, 0, 0, 0},
+        int[][] loads = {{20, 17, 21, 0, 42, 10, 17}, {2, 0, 4, 0, 8, 1, 0}, {0, 0, 0, 0, 0, 0, 0}, {1, 0, 4, 0, 8, 0, 0},
             {-7, -7, -7, -7, -7, -7, -7}, {-99, -99, -99, -99, -99, -99, -99}, {99, 96, 99, 0, 99, 49, 96}};
         for (int kind = 0; kind < 6; kind++) {
             ListenerIsTired x = ruled(with(kind, 4), "does 21;weighs 7;spares 3;");
@@ -277,6 +285,10 @@ public final class PromisesTest {
         fault("Does 1" + tail, 0);
         fault("does does" + tail, 5);
         fault("does tires" + tail, 5);
+        fault("does dired" + tail, 5);
+        fault("does tiredz" + tail, 5);
+        fault("does ztired" + tail, 5);
+        fault("does atired" + tail, 5);
         fault("does tire" + tail, 5);
         fault("does 1 1" + tail, 7);
         fault("does tired story" + tail, 11);
@@ -372,6 +384,10 @@ public final class PromisesTest {
         value("not 1<0", 1);
         value("not not 7", 1);
         value("5 and 7", 1);
+        value("1 and 7", 1);
+        value("7 and 1", 1);
+        value("0 and 7", 0);
+        value("1 or 0", 1);
         value("5 and 0", 0);
         value("0 or 7", 1);
         value("0 or 0", 0);
@@ -596,6 +612,15 @@ public final class PromisesTest {
         ListenerIsTired liar = with(LIAR, 0, DOG, 0);
         liar.set(4, 0, 1);
         due("at first, too", liar.round(), 1);
+        ListenerIsTired five = with(TELLER, 0, DOG, 0, DOG, 0, TELLER, 0, DOG, 0);
+        five.set(3, 0, 50);
+        due("five: the last of whom comes round in 11 DAYS", five.round(), 11);
+        five.set(3, 3, 70);
+        due("five: in 6 DAYS", five.round(), 6);
+        five.set(3, 0, 99);
+        five.set(3, 3, 99);
+        five.set(2, 4, 99);
+        due("five: TIRED 99, ASLEEP, 79, 59, 39, 39", five.round(), 5);
     }
 
     /** By run() alone, two PEOPLE. */
@@ -690,6 +715,9 @@ public final class PromisesTest {
         y.set(3, 0, 9);
         y.set(2, 1, 83);
         due("four less", y.spread(0, 0), 2);
+        y.set(3, 1, 9);
+        due("over the first", y.spread(1, 0), 1);
+        due("over one", y.spread(1, 1), 1);
     }
 
     private static void aunt() {
@@ -725,6 +753,19 @@ public final class PromisesTest {
         y.set(2, 2, 60);
         due("a liar", y.aunt(0, 0), 2);
         due("a liar", y.aunt(0, 1), 50);
+        due("the first", y.aunt(1, 0), 0);
+        due("60", y.aunt(1, 1), 60);
+        ListenerIsTired z = with(TELLER, 0, TELLER, 0, TELLER, 0, TELLER, 0, TELLER, 0);
+        due("five, nobody TIRED", z.aunt(4, 1), 0);
+        due("five, the first", z.aunt(4, 0), 0);
+        z.set(2, 4, 5);
+        due("five, the last is TIRED", z.aunt(3, 1), 5);
+        ListenerIsTired gone = with(TELLER, 0, TELLER, 0);
+        gone.image();
+        gone.person(TELLER, 0);
+        gone.set(2, 2, 70);
+        gone.back();
+        due("who is gone is not looked at", gone.aunt(0, 1), 0);
     }
 
     private static void bears() {
@@ -733,6 +774,9 @@ public final class PromisesTest {
         due("12 less 3", x.bears(0, 1), 12);
         x.set(2, 1, 79);
         due("3 less 3", x.bears(0, 1), 3);
+        x.set(1, 1, 0);
+        due("0", x.bears(0, 1), 0);
+        x.set(1, 1, 3);
         x.set(2, 1, 80);
         due("NONE", x.bears(0, 1), -1);
         due("a liar's", x.bears(2, 1), 99);
@@ -764,6 +808,10 @@ public final class PromisesTest {
         x.set(2, 1, 13);
         due("23", x.mean(0), 23);
         due("4", x.mean(1), 4);
+        ListenerIsTired alone = with(TELLER, 0);
+        alone.set(2, 0, 12);
+        due("12", alone.mean(0), 12);
+        due("1", alone.mean(1), 1);
         due("part 2", x.mean(2), NO);
         due("part -1", x.mean(-1), NO);
         due("nobody", new ListenerIsTired().mean(0), NO);
@@ -966,6 +1014,13 @@ public final class PromisesTest {
         }
         due("another comes", x.person(LIAR, 8), 2);
         is(x, 2, 8, 0, 0, -1, 0, 0, LIAR);
+        int[] some = {1, 2, 3, 4, 0, 5, 1};
+        for (int what = 1; what <= 6; what++) {
+            x.set(what, 2, some[what]);
+        }
+        x.back();
+        due("nothing is left of that one", x.person(DOG, 7), 2);
+        is(x, 2, 7, 0, 0, -1, 0, 0, DOG);
     }
 
     private static void count() {
