@@ -23,7 +23,7 @@ public final class PromisesTest {
         promise = 4; toldDoes(); toldWeighs();
         promise = 5; hears();
         promise = 6; feed();
-        promise = 7; textRead(); textFaults(); textOpen(); textValues(); textFull();
+        promise = 7; textRead(); textFaults(); textBehindFault(); textOpen(); textValues(); textFull();
         promise = 8; force();
         promise = 9; tell();
         promise = 10; day(); daySleep(); dayOrder();
@@ -319,6 +319,28 @@ public final class PromisesTest {
         fault("does 1;weighs ;spares 0;", 14);
         fault("does 1;weighs 1;spares ;", 23);
         fault("does 1;weighs 1;spares _", 23);
+    }
+
+    /** What a long TEXT with a FAULT left behind takes no room from the next one and tells nothing in it. */
+    private static void textBehindFault() {
+        ListenerIsTired x = with(TELLER, 6);
+        StringBuilder unended = new StringBuilder("does 9");
+        while (unended.length() < 126) {
+            unended.append("+9");
+        }
+        due("spares unended", read(x, unended.append(";weighs 9;spares 9").toString()), -100 - unended.length());
+        due("a good one", read(x, "does 1+2+3+4+5+6+7+8+9+10;weighs 1+2+3+4+5+6+7;spares 1+2+3;"), 1);
+        x.force(1);
+        due("does", x.told(0, 8), 55);
+        due("weighs", x.told(0, 9), 1028);
+        due("spares", x.hears(0, 50), 1044);
+        due("a FAULT in the next", read(x, "does 4;weighs 4;spares"), -122);
+        due("TEXT 1 stays", x.told(0, 8), 55);
+        due("another good one", read(x, "does 2;weighs 3;spares 4;"), 2);
+        x.force(2);
+        due("does", x.told(0, 8), 2);
+        due("weighs", x.told(0, 9), 1003);
+        due("spares", x.hears(0, 50), 1046);
     }
 
     private static void textOpen() {
