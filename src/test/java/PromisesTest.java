@@ -23,7 +23,7 @@ public final class PromisesTest {
         promise = 4; toldDoes(); toldWeighs();
         promise = 5; hears();
         promise = 6; feed();
-        promise = 7; textRead(); textFaults(); textBehindFault(); textOpen(); textValues(); textFull();
+        promise = 7; textRead(); textFaults(); textWithoutOnes(); textBehindFault(); textBehindEnd(); textOpen(); textValues(); textFull();
         promise = 8; force();
         promise = 9; tell();
         promise = 10; day(); daySleep(); dayOrder();
@@ -321,6 +321,46 @@ public final class PromisesTest {
         fault("does 1;weighs 1;spares _", 23);
     }
 
+    private static void textWithoutOnes() {
+        String tail = ";weighs 0;spares 0;";
+        String[] unended = {"1 or ", "1 and ", "not ", "not not ", "1<", "1=", "1+", "1-", "1*", "-", "--", "1 or not ", "1<-", "2*-"};
+        for (String sum : unended) {
+            fault("does " + sum + tail, 5 + sum.length());
+            fault("does (" + sum + ")" + tail, 6 + sum.length());
+            fault("does " + sum, 5 + sum.length());
+            fault("does 0;weighs 0;spares " + sum + ";", 23 + sum.length());
+            fault("does " + sum + "or 1" + tail, 5 + sum.length());
+            fault("does " + sum + "* 1" + tail, 5 + sum.length());
+            fault("does " + sum + "< 1" + tail, 5 + sum.length());
+        }
+        for (String more : new String[] {"$", "x", "12345", "12", "tired", "(", ")", "-", "not", "does", "or", ";", "\t"}) {
+            fault("does 1;weighs 1;spares 1;" + more, 25);
+            fault("does 1;weighs 1;spares 1; \n " + more + " ", 28);
+        }
+        fault("does 1;weighs 1;spares 1", 24);
+        fault("does 1;weighs 1;spares 1 \n", 26);
+    }
+
+    /** Bytes that THE TAPE had before are none of its bytes now. */
+    private static void textBehindEnd() {
+        String[][] pairs = {{"tired", "x"}, {"tire", "d"}, {"1234", "5"}, {"12", "x"}, {"1", ";"}, {"story+", "1;"}};
+        for (String[] pair : pairs) {
+            ListenerIsTired x = with(TELLER, 6);
+            String letters = "does 1;weighs 1;spares " + pair[0];
+            int place = pair[0].equals("tire") ? 23 : letters.length();
+            read(x, letters + pair[1]);
+            due("an end behind " + pair[0], read(x, letters), -100 - place);
+        }
+        for (String last : new String[] {"tired", "1234", "day", "1+", " ", "("}) {
+            ListenerIsTired x = with(TELLER, 6);
+            StringBuilder letters = new StringBuilder("does 1;weighs 1;spares ");
+            while (letters.length() < 160 - last.length()) {
+                letters.append(' ');
+            }
+            due("160 bytes, the last are " + last, read(x, letters.append(last).toString()), -260);
+        }
+    }
+
     /** What a long TEXT with a FAULT left behind takes no room from the next one and tells nothing in it. */
     private static void textBehindFault() {
         ListenerIsTired x = with(TELLER, 6);
@@ -328,7 +368,10 @@ public final class PromisesTest {
         while (unended.length() < 126) {
             unended.append("+9");
         }
-        due("spares unended", read(x, unended.append(";weighs 9;spares 9").toString()), -100 - unended.length());
+        unended.append(";weighs 9;spares 9");
+        for (int i = 0; i < 2; i++) {
+            due("spares unended", read(x, unended.toString()), -100 - unended.length());
+        }
         due("a good one", read(x, "does 1+2+3+4+5+6+7+8+9+10;weighs 1+2+3+4+5+6+7;spares 1+2+3;"), 1);
         x.force(1);
         due("does", x.told(0, 8), 55);
@@ -625,6 +668,11 @@ public final class PromisesTest {
         ListenerIsTired y = with(DOG, 0);
         y.set(2, 0, 80);
         due("who is ASLEEP is looked at", y.round(), 5);
+        ListenerIsTired more = with(DOG, 0, DOG, 0, DOG, 0);
+        more.set(2, 0, 79);
+        more.set(2, 1, 80);
+        more.set(2, 2, 79);
+        due("who is ASLEEP is looked at among TIRED ones", more.round(), 5);
         ListenerIsTired z = ruled(with(TELLER, 0, DEAF, 0), "does 1;weighs 0;spares 0;");
         z.set(4, 0, 1);
         z.set(4, 1, 0);
