@@ -196,6 +196,9 @@ public final class OracleTest {
     }
 
     private boolean calls(String name, int... values) throws Exception {
+        if (done.size() == CALLS) {
+            return true;
+        }
         Class<?>[] types = new Class<?>[values.length];
         Arrays.fill(types, int.class);
         Object[] boxed = Arrays.stream(values).boxed().toArray();

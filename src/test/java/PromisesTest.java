@@ -695,13 +695,14 @@ public final class PromisesTest {
 
     /** By run() alone, two PEOPLE. */
     private static int roundByHand(ListenerIsTired x) {
-        for (int n = 1; n <= 40; n++) {
+        long[] faces = new long[41];
+        for (int n = 0; n <= 40; n++) {
+            faces[n] = x.run(0, n, 2);
+            for (int one = 0; one < 2; one++) {
+                faces[n] = (faces[n] * 100 + x.run(one, n, 0)) * 100 + x.run(one, n, 1);
+            }
             for (int past = 0; past < n; past++) {
-                boolean like = x.run(0, n, 2) == x.run(0, past, 2);
-                for (int one = 0; one < 2; one++) {
-                    like &= x.run(one, n, 0) == x.run(one, past, 0) && x.run(one, n, 1) == x.run(one, past, 1);
-                }
-                if (like) {
+                if (faces[past] == faces[n]) {
                     return n;
                 }
             }
@@ -1005,8 +1006,8 @@ public final class PromisesTest {
     }
 
     private static void chance() {
-        ListenerIsTired x = with(TELLER, 0, WIFE, 1, DEAF, 2, AUNT, 3, LIAR, 4);
         for (int m = 1; m <= 20; m++) {
+            ListenerIsTired x = with(TELLER, 0, WIFE, 1, DEAF, 2, AUNT, 3, LIAR, 4);
             for (int k = 0; k <= 500; k += 25) {
                 int many = 0;
                 for (int i = 0; i < m; i++) {
@@ -1020,6 +1021,7 @@ public final class PromisesTest {
                 due("chance below, m " + m + ", k " + k, x.chance(MAX - 3, m, k, 1), m / common);
             }
         }
+        ListenerIsTired x = with(TELLER, 0, WIFE, 1, DEAF, 2, AUNT, 3, LIAR, 4);
         int exact = x.drawn(9, 10);
         due("k or more", x.chance(9, 1, exact, 0), 1);
         due("k or more", x.chance(9, 1, exact + 1, 0), 0);
